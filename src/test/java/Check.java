@@ -1,0 +1,148 @@
+import java.util.NoSuchElementException;
+
+/** Counts and prints the answers that are not due; what the tests of the project share. */
+final class Check {
+    /** A call of the class under test, or what else may throw. */
+    interface Call {
+        void make();
+    }
+
+    private static int right = 0;
+    private static int wrong = 0;
+
+    private Check() {
+    }
+
+    static void same(String call, long got, long due) {
+        tell(got == due, call + " answered " + got + ", due is " + due);
+    }
+
+    static void sameText(String call, String got, String due) {
+        tell(got.equals(due), call + " answered '" + got + "', due is '" + due + "'");
+    }
+
+    static void sameFloat(String call, float got, float due) {
+        same(call + " (bits)", Float.floatToIntBits(got), Float.floatToIntBits(due));
+    }
+
+    static void sameDouble(String call, double got, double due) {
+        same(call + " (bits)", Double.doubleToLongBits(got), Double.doubleToLongBits(due));
+    }
+
+    static void throwsMissing(String call, Call made) {
+        throwsThis(call, NoSuchElementException.class, made);
+    }
+
+    static void throwsArgument(String call, Call made) {
+        throwsThis(call, IllegalArgumentException.class, made);
+    }
+
+    static void throwsState(String call, Call made) {
+        throwsThis(call, IllegalStateException.class, made);
+    }
+
+    static void throwsIndex(String call, Call made) {
+        throwsThis(call, IndexOutOfBoundsException.class, made);
+    }
+
+    private static void throwsThis(String call, Class<? extends RuntimeException> due, Call made) {
+        try {
+            made.make();
+            tell(false, call + " threw nothing, due is " + due.getName());
+        } catch (RuntimeException thrown) {
+            tell(thrown.getClass() == due, call + " threw " + thrown + ", due is " + due.getName());
+        }
+    }
+
+    private static void tell(boolean asDue, String fault) {
+        if (asDue) {
+            right++;
+        } else {
+            wrong++;
+            if (wrong <= 50) {
+                System.out.println(fault);
+            }
+        }
+    }
+
+    /** Feeds a text, filled up with a sign that no length of a parse reaches. */
+    static int feed(BackwardProofs x, String text) {
+        int fed = 0;
+        for (int from = 0; from < text.length(); from += 20) {
+            fed = x.feed(four(text, from), four(text, from + 4), four(text, from + 8), four(text, from + 12),
+                    four(text, from + 16));
+        }
+        return fed;
+    }
+
+    static int four(String text, int from) {
+        int four = 0;
+        for (int i = from; i < from + 4; i++) {
+            four = four << 8 | (i < text.length() ? text.charAt(i) & 255 : 'z');
+        }
+        return four;
+    }
+
+    static int load(BackwardProofs x, String text) {
+        feed(x, text);
+        return x.load(text.length());
+    }
+
+    static BackwardProofs loaded(String text) {
+        BackwardProofs x = new BackwardProofs();
+        load(x, text);
+        return x;
+    }
+
+    static int setBefore(BackwardProofs x, String text) {
+        feed(x, text);
+        return x.setBefore(text.length());
+    }
+
+    static int setAfter(BackwardProofs x, String text) {
+        feed(x, text);
+        return x.setAfter(text.length());
+    }
+
+    static int setKeep(BackwardProofs x, int loop, String text) {
+        feed(x, text);
+        return x.setKeep(loop, text.length());
+    }
+
+    static int setLess(BackwardProofs x, int loop, String text) {
+        feed(x, text);
+        return x.setLess(loop, text.length());
+    }
+
+    static String output(BackwardProofs x, int length) {
+        StringBuilder text = new StringBuilder();
+        for (int i = 0; i < length; i++) {
+            text.append((char) x.outputByte(i));
+        }
+        return text.toString();
+    }
+
+    static String written(BackwardProofs x, int statement) {
+        int length = x.writeNeed(statement);
+        return length == BackwardProofs.NONE ? "" : output(x, length);
+    }
+
+    /** Looks at a text that a load refuses: the code and position, and that the program stays. */
+    static void refused(String text, int code, int position) {
+        BackwardProofs x = new BackwardProofs();
+        feed(x, text);
+        String call = "load of '" + text + "'";
+        throwsState(call, () -> x.load(text.length()));
+        same(call + ": errorCode()", x.errorCode(), code);
+        same(call + ": errorPosition()", x.errorPosition(), position);
+        same(call + ": value(0)", x.value(0), 4);
+        same(call + ": feed() behind it", x.feed(0, 0, 0, 0, 0), 20);
+    }
+
+    static void finish(String name) {
+        System.out.println(name + ": " + right + " answers as due, " + wrong + " not");
+        if (wrong != 0 || right == 0) {
+            System.exit(1);
+        }
+    }
+}
