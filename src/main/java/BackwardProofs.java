@@ -1007,6 +1007,8 @@ public final class BackwardProofs {
         static final int NOT_ALLOWED = -3;
         static final int TOO_GREAT = -4;
         private static final int MOST_DIGITS = 3;
+        /** Two tokens have a blank between them, or the second one is the last; the end is one more. */
+        private static final int MOST_TOKENS = INPUT_BYTES / 2 + 2;
 
         /** The word's number (a number 0 to 3 is one, too), or one of the three above. */
         int token;
@@ -1015,8 +1017,8 @@ public final class BackwardProofs {
         private final byte[] text;
         private int length;
         private int end;
-        private final int[] tokens = new int[INPUT_BYTES + 1];
-        private final int[] starts = new int[INPUT_BYTES + 1];
+        private final int[] tokens = new int[MOST_TOKENS];
+        private final int[] starts = new int[MOST_TOKENS];
         private int count;
         private int taken;
 
@@ -1029,7 +1031,7 @@ public final class BackwardProofs {
             token = NONE;
             end = 0;
             count = 0;
-            for (int i = 0; i <= INPUT_BYTES && token != AT_END && token != NOT_ALLOWED; i++) {
+            for (int i = 0; i < MOST_TOKENS && token != AT_END && token != NOT_ALLOWED; i++) {
                 scan();
                 tokens[i] = token;
                 starts[i] = start;
@@ -1041,7 +1043,7 @@ public final class BackwardProofs {
 
         /** The last token, the end or one that is refused, is never gone beyond. */
         void advance() {
-            if (taken >= 0 && taken < count && taken <= INPUT_BYTES) {
+            if (taken >= 0 && taken < count && taken < MOST_TOKENS) {
                 token = tokens[taken];
                 start = starts[taken];
                 taken++;
@@ -1152,7 +1154,7 @@ public final class BackwardProofs {
             take(Words.PROOF);
             version.before = parseFormula(true);
             version.after = parseFormula(true);
-            for (int i = 0; i <= INPUT_BYTES && errorCode == 0 && scanner.token != Scanner.AT_END; i++) {
+            for (int i = 0; i < INPUT_BYTES && errorCode == 0 && scanner.token != Scanner.AT_END; i++) {
                 parseRowWord();
             }
             if (open != NONE) {

@@ -127,6 +127,41 @@ final class Check {
         return length == BackwardProofs.NONE ? "" : output(x, length);
     }
 
+    /** All that the object answers about the proof; two objects with the same picture hold the same proof. */
+    static String picture(BackwardProofs x) {
+        StringBuilder picture = new StringBuilder();
+        for (int what = 0; what < 7; what++) {
+            picture.append(x.value(what)).append(' ');
+        }
+        picture.append(x.before()).append(' ').append(x.after()).append(' ').append(x.needAhead()).append(' ');
+        for (int statement = 0; statement < x.value(0); statement++) {
+            for (int what = 0; what < 8; what++) {
+                picture.append(x.statement(statement, what)).append(' ');
+            }
+            picture.append(x.need(statement)).append(' ').append(x.met(statement)).append(' ');
+            picture.append(x.needNodes(statement)).append(' ').append(x.gap(statement)).append('\n');
+        }
+        for (int loop = 0; loop < x.value(1); loop++) {
+            picture.append(x.loopSet(loop, 0)).append(' ').append(x.loopSet(loop, 1)).append(' ');
+            picture.append(x.rounds(loop)).append(' ').append(x.safe(loop)).append(' ').append(x.unsafe(loop));
+            for (int state = 0; state < 64; state++) {
+                picture.append(' ').append(x.less(loop, state));
+            }
+        }
+        for (int hole = 0; hole < x.value(2); hole++) {
+            picture.append(' ').append(x.proves(hole)).append(' ').append(x.rights(hole));
+        }
+        for (int duty = 0; duty < x.value(4); duty++) {
+            picture.append(' ').append(x.failing(duty)).append(' ').append(x.duty(duty, 1));
+        }
+        for (int state = 0; state < 64; state++) {
+            picture.append('\n').append(x.run(state)).append(' ').append(x.steps(state)).append(' ');
+            picture.append(x.costBits(state));
+        }
+        picture.append(x.wrong()).append(' ').append(x.dearest()).append(' ').append(x.meanBits());
+        return picture.append(' ').append(x.share()).append(' ').append(x.trouble()).toString();
+    }
+
     /** Looks at a text that a load refuses: the code and position, and that the program stays. */
     static void refused(String text, int code, int position) {
         BackwardProofs x = new BackwardProofs();
