@@ -1758,14 +1758,15 @@ public final class BackwardProofs {
                 exponent--;
             }
             int fraction = (int) ((size - 1.0f) * 8388608.0f);
-            return (value < 0.0f ? 1 << 31 : 0) | exponent << 23 | fraction;
+            return (value < 0.0f ? 1 << 31 : 0) | (exponent << 23) | fraction;
         }
 
+        /** Likewise; a mean of costs is never negative. */
         static long bitsOf(double value) {
-            if (value == 0.0) {
+            if (value <= 0.0) {
                 return 0L;
             }
-            double size = value < 0.0 ? -value : value;
+            double size = value;
             long exponent = 1023L;
             for (int i = 0; i < MOST_HALVINGS && size >= 2.0; i++) {
                 size = size / 2.0;
@@ -1776,7 +1777,7 @@ public final class BackwardProofs {
                 exponent--;
             }
             long fraction = (long) ((size - 1.0) * 4503599627370496.0);
-            return (value < 0.0 ? 1L << 63 : 0L) | exponent << 52 | fraction;
+            return (exponent << 52) | fraction;
         }
     }
 

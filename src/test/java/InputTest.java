@@ -12,6 +12,7 @@ public final class InputTest {
         feed();
         feedOrder();
         load();
+        loadBehindFailingDuties();
         loadOfWrongLength();
         loadWithError();
         errorsOfTokens();
@@ -88,6 +89,7 @@ public final class InputTest {
         Check.same("value(3)", x.value(3), 0);
         Check.same("value(7)", x.value(7), 0);
         Check.same("price", x.statement(0, 5), 10);
+        Check.same("trouble()", x.trouble(), -1);
         Check.same("before()", x.before(), 0x1111111111111111L);
         Check.throwsState("undo()", x::undo);
         Check.throwsState("restore(0)", () -> x.restore(0));
@@ -99,6 +101,16 @@ public final class InputTest {
         Check.feed(x, "proof true true hole hole hole");
         Check.same("load of the first bytes", x.load(25), 2);
         Check.same("feed", x.feed(0, 0, 0, 0, 0), 20);
+    }
+
+    private static void loadBehindFailingDuties() {
+        BackwardProofs x = Check.loaded("proof true false while true keep true less 0 end while true keep true less 0 end");
+        Check.same("value(5)", x.value(5), 2);
+        Check.same("trouble()", x.trouble(), 3);
+        Check.load(x, "proof true true");
+        Check.same("value(5)", x.value(5), 0);
+        Check.same("value(6)", x.value(6), 1);
+        Check.same("trouble()", x.trouble(), -1);
     }
 
     private static void loadOfWrongLength() {
@@ -153,6 +165,12 @@ public final class InputTest {
         Check.refused(AHEAD + "set a -1", 1, 22);
         Check.refused(AHEAD + "set a \u00e9", 1, 22);
         Check.refused(AHEAD + "\0", 1, 16);
+        Check.refused(AHEAD + "set a " + "plus ".repeat(15) + "1b", 1, 98);
+        Check.refused(AHEAD + "set a " + "plus ".repeat(15) + "1 ;", 1, 99);
+        Check.refused("proof truez true", 1, 6);
+        Check.refused("proof true{ true", 1, 10);
+        Check.refused("proof true eq a 0: true", 1, 17);
+        Check.refused("proof true eq a 0/ true", 1, 17);
         Check.refused("prooftrue true", 1, 0);
         Check.refused("proof true truehole", 1, 11);
         Check.refused("proof true tru", 1, 11);
@@ -261,6 +279,9 @@ public final class InputTest {
         Check.same("nodes", x.statement(0, 6), 61);
         Check.same("29 nodes", Check.load(x, AHEAD + "set a " + "plus a ".repeat(14) + "a"), 1);
         Check.same("nodes", x.statement(0, 6), 29);
+        Check.same("an if behind a hole in a second row",
+                Check.load(x, AHEAD + "if true else hole if true else end hole end"), 4);
+        Check.same("second row", x.statement(0, 4), 3);
         Check.same("rows", Check.load(x, AHEAD + "if true hole if true else hole end hole else set a 1 end hole"), 7);
         Check.same("first row", x.statement(0, 3), 3);
         Check.same("second row", x.statement(0, 4), 1);

@@ -14,7 +14,8 @@ public final class ModelTest {
         for (int i = 0; i < PROGRAMS; i++) {
             String text = dice.description(i % 5 == 0 ? 24 : 1 + i % 9);
             Model model = Model.ofDescription(text);
-            BackwardProofs x = new BackwardProofs();
+            // what the object held before does not matter
+            BackwardProofs x = Check.loaded(dice.description(1 + i % 24));
             Check.same("load of " + text, Check.load(x, text), model.statements.size());
             compare(text, x, model);
             change(text, x, model, dice);

@@ -157,6 +157,12 @@ public final class WritingTest {
 
     private static void output() {
         BackwardProofs x = new BackwardProofs();
+        Check.same("gap(3) at first", x.gap(3), 0);
+        x.fill(0, 14);
+        Check.same("needNodes(3) ahead of all writing", x.needNodes(3), 7);
+        x.fill(0, 7);
+        Check.same("gap(3) behind a change", x.gap(3), 0);
+        x.fill(0, -1);
         Check.throwsIndex("outputByte(0) at first", () -> x.outputByte(0));
         Check.same("writeNeed(3)", x.writeNeed(3), 17);
         Check.same("outputByte(0)", x.outputByte(0), 'a');
