@@ -1,4 +1,5 @@
 import java.util.NoSuchElementException;
+import java.util.function.IntPredicate;
 
 /** Counts and prints the answers that are not due; what the tests of the project share. */
 final class Check {
@@ -9,6 +10,9 @@ final class Check {
 
     private static int right = 0;
     private static int wrong = 0;
+    /** The case that is running, "" outside of cases. */
+    private static String running = "";
+    private static int toldBefore = 0;
 
     private Check() {
     }
@@ -58,11 +62,62 @@ final class Check {
         if (asDue) {
             right++;
         } else {
-            wrong++;
-            if (wrong <= 50) {
-                System.out.println(fault);
-            }
+            fault(fault);
         }
+    }
+
+    static void fault(String fault) {
+        wrong++;
+        if (wrong <= 50) {
+            System.out.println((running.isEmpty() ? "" : running + ": ") + fault);
+        }
+    }
+
+    static void begin(String name) {
+        running = name;
+        toldBefore = right + wrong;
+    }
+
+    static void end() {
+        if (right + wrong == toldBefore) {
+            fault("this case looks at nothing");
+        }
+        running = "";
+    }
+
+    /** The set of states of which something is so, told by the state's number alone. */
+    static long states(IntPredicate isSo) {
+        long set = 0;
+        for (int state = 0; state < 64; state++) {
+            set |= isSo.test(state) ? 1L << state : 0L;
+        }
+        return set;
+    }
+
+    static int a(int state) {
+        return state % 4;
+    }
+
+    static int b(int state) {
+        return state / 4 % 4;
+    }
+
+    static int c(int state) {
+        return state / 16;
+    }
+
+    /** The states in which the class says that a condition holds. */
+    static long holding(String condition) {
+        BackwardProofs x = new BackwardProofs();
+        setBefore(x, condition);
+        return x.before();
+    }
+
+    /** The value that the class says an expression has in a state. */
+    static int value(String expression, int state) {
+        BackwardProofs x = new BackwardProofs();
+        setLess(x, 0, expression);
+        return x.less(0, state);
     }
 
     /** Feeds a text, filled up with a sign that no length of a parse reaches. */
